@@ -13,6 +13,8 @@ public final class StonesAsked {
     private static final int TOP_SIZE = 999, TOP_PUTS = 999, TOP_PLAN = 4, HELD_PRICE = 1999999999;
     private static final int MOST_DAYS = 12, TOP_COST = 999, MOST_CELLS = 60, TOP_WIDTH = 8, MOST_KEYS = 9;
     private static final int MOST_WALKS = 4, SHELVES = 6, ROW_ROOM = 60, NO_ROW = -1, BYTES = 0, TOP_SORT = 4;
+    /** What Long.MIN_VALUE is; its name is not among what LANGUAGE.md lists. */
+    private static final long NO_ELEMENT = -9223372036854775808L;
     private static final int NOTHING_THERE = -11, OTHER_KIND = -12, NO_PLACE = -13, SIZE_BELOW = -14;
 
     private final Things kept = new Things();
@@ -458,8 +460,11 @@ public final class StonesAsked {
     }
 
     public int trace(int i) {
-        int kept = Math.min(bodiesRun(), TRACE_ROOM);
-        return latestActor != null && isWithin(i, 0, kept - 1) ? latestActor.bodies[i] : BAD;
+        if (latestActor == null) {
+            return BAD;
+        }
+        int size = Math.min(latestActor.bodyCount, TRACE_ROOM);
+        return isWithin(i, 0, size - 1) ? latestActor.bodies[i] : BAD;
     }
 
     private int bodiesRun() {
@@ -499,7 +504,7 @@ public final class StonesAsked {
     }
 
     public long element(int shelf, int i) {
-        return refusalAt(shelf, i) != 0 ? Long.MIN_VALUE : shelfCells[shelf][i];
+        return refusalAt(shelf, i) != 0 ? NO_ELEMENT : shelfCells[shelf][i];
     }
 
     public int shift(int shelf, int i, int other, int j, int n) {
@@ -650,7 +655,8 @@ public final class StonesAsked {
         final int[] mosts = new int[FIELDS];
         int count;
         int walkCount;
-        private final int[] values = new int[MOST_THINGS * FIELDS];
+        /** A row for each field: a stone holds on to the row of its key. */
+        final int[][] values = new int[FIELDS][MOST_THINGS];
         /** With which taking a thing went: a frozen walk knows by it what was in when it began. */
         private final int[] wentWith = new int[MOST_THINGS];
         private int takings;
@@ -671,7 +677,7 @@ public final class StonesAsked {
         }
 
         int value(int thing, int field) {
-            return values[thing * FIELDS + field];
+            return values[field][thing];
         }
 
         int countIn() {
@@ -713,11 +719,10 @@ public final class StonesAsked {
         }
 
         int add(int f0, int f1, int f2, int f3) {
-            int at = count * FIELDS;
-            values[at] = f0;
-            values[at + 1] = f1;
-            values[at + 2] = f2;
-            values[at + 3] = f3;
+            values[0][count] = f0;
+            values[1][count] = f1;
+            values[2][count] = f2;
+            values[3][count] = f3;
             wentWith[count] = STILL_IN;
             count++;
             return count - 1;
@@ -728,7 +733,7 @@ public final class StonesAsked {
             takings++;
         }
 
-        /** A walk that is not frozen has no end and sees what has gone: all takings lie behind it. */
+        /** A walk that is not frozen passes by whatever has gone, with any taking, and has no end. */
         int addWalk(boolean frozen) {
             walkPlaces[walkCount] = 0;
             walkEnds[walkCount] = frozen ? count : MOST_THINGS;
@@ -974,11 +979,16 @@ public final class StonesAsked {
         }
     }
 
-    /** KIND 0, which keeps nothing; the kinds below it say what they do otherwise. */
+    /**
+     * KIND 0, which keeps nothing; the kinds below it say what they do otherwise.
+     * What overrides bears no mark: annotations are not among what LANGUAGE.md lists.
+     */
     private static class Stone {
         final Things things;
         final int number;
         final int key;
+        /** KEY of each thing, by its number. */
+        final int[] keys;
         final int[] bodies = new int[TRACE_ROOM];
         int bodyCount;
         int allLooks;
@@ -990,6 +1000,7 @@ public final class StonesAsked {
             this.things = things;
             this.number = number;
             this.key = key;
+            this.keys = things.values[key];
         }
 
         final void enter(int thing) {
@@ -1037,14 +1048,9 @@ public final class StonesAsked {
             return 0;
         }
 
-        final int keyOf(int thing) {
-            return things.value(thing, key);
-        }
-
         /** By KEY, of like ones by number. */
         final boolean comesAhead(int thing, int value, int other) {
-            int own = keyOf(thing);
-            return own < value || own == value && thing < other;
+            return keys[thing] < value || keys[thing] == value && thing < other;
         }
 
         /** L: the least number with 2 to the L above n. */
@@ -1100,18 +1106,15 @@ public final class StonesAsked {
             super(things, number, key);
         }
 
-        @Override
         int kind() {
             return 1;
         }
 
-        @Override
         void putName(int thing) {
             counted++;
             insertAt(size, thing);
         }
 
-        @Override
         void takeName(int thing) {
             int place = placeOf(thing);
             counted += place + 1;
@@ -1144,17 +1147,14 @@ public final class StonesAsked {
             System.arraycopy(names, place + 1, names, place, size - place);
         }
 
-        @Override
         int howMany() {
             return size;
         }
 
-        @Override
         int nameIn(int place) {
             return isWithin(place, 0, size - 1) ? names[place] : BAD;
         }
 
-        @Override
         int run(Ask ask) {
             for (int i = 0; i < size; i++) {
                 counted++;
@@ -1163,17 +1163,14 @@ public final class StonesAsked {
             return ask.result();
         }
 
-        @Override
         int priceFor(Ask ask, int n) {
             return n;
         }
 
-        @Override
         int priceOfPut(int n) {
             return 1;
         }
 
-        @Override
         int finds(int x) {
             led(20);
             return super.finds(x) + key;
@@ -1185,7 +1182,6 @@ public final class StonesAsked {
             super(things, number, key);
         }
 
-        @Override
         int kind() {
             return 2;
         }
@@ -1206,26 +1202,23 @@ public final class StonesAsked {
             return low;
         }
 
-        @Override
         void putName(int thing) {
-            int place = placeFor(keyOf(thing), thing);
+            int place = placeFor(keys[thing], thing);
             counted += size - place;
             insertAt(place, thing);
         }
 
-        @Override
         void takeName(int thing) {
-            int place = placeFor(keyOf(thing), thing);
+            int place = placeFor(keys[thing], thing);
             counted += size - 1 - place;
             removeAt(place);
         }
 
-        @Override
         int run(Ask ask) {
             int most = ask.highEnd(key);
             for (int i = placeFor(ask.lowEnd(key), NONE); i < size; i++) {
                 counted++;
-                if (keyOf(names[i]) > most) {
+                if (keys[names[i]] > most) {
                     break;
                 }
                 ask.see(things, names[i]);
@@ -1233,17 +1226,14 @@ public final class StonesAsked {
             return ask.result();
         }
 
-        @Override
         int priceFor(Ask ask, int n) {
             return orderedPrice(ask, key, n);
         }
 
-        @Override
         int priceOfPut(int n) {
             return levels(n) + n / 2;
         }
 
-        @Override
         int mends(int x) {
             led(30);
             return super.mends(x) - 1;
@@ -1258,18 +1248,15 @@ public final class StonesAsked {
             super(things, number, key);
         }
 
-        @Override
         int kind() {
             return 7;
         }
 
-        @Override
         void putName(int thing) {
             super.putName(thing);
             sumUp();
         }
 
-        @Override
         void takeName(int thing) {
             super.takeName(thing);
             sumUp();
@@ -1277,11 +1264,10 @@ public final class StonesAsked {
 
         private void sumUp() {
             for (int i = 0; i < size; i++) {
-                sums[i + 1] = sums[i] + keyOf(names[i]);
+                sums[i + 1] = sums[i] + keys[names[i]];
             }
         }
 
-        @Override
         int run(Ask ask) {
             if (!ask.isFromSums(key)) {
                 return super.run(ask);
@@ -1294,12 +1280,10 @@ public final class StonesAsked {
             return ask.isCount() ? to - from : sums[to] - sums[from];
         }
 
-        @Override
         int priceFor(Ask ask, int n) {
             return ask.isFromSums(key) ? 2 * levels(n) : super.priceFor(ask, n);
         }
 
-        @Override
         int mends(int x) {
             led(80);
             return super.mends(x) + super.finds(x);
@@ -1311,18 +1295,15 @@ public final class StonesAsked {
             super(things, number, key);
         }
 
-        @Override
         int kind() {
             return 3;
         }
 
-        @Override
         void putName(int thing) {
             insertAt(size, thing);
             rise(size - 1);
         }
 
-        @Override
         void takeName(int thing) {
             int place = placeOf(thing);
             if (place >= size) {
@@ -1377,7 +1358,7 @@ public final class StonesAsked {
         }
 
         private boolean isLess(int place, int other) {
-            return comesAhead(names[place], keyOf(names[other]), names[other]);
+            return comesAhead(names[place], keys[names[other]], names[other]);
         }
 
         private void change(int place, int other) {
@@ -1386,7 +1367,6 @@ public final class StonesAsked {
             names[other] = name;
         }
 
-        @Override
         int run(Ask ask) {
             if (!ask.isLeastOfAll(key)) {
                 return super.run(ask);
@@ -1398,17 +1378,14 @@ public final class StonesAsked {
             return ask.result();
         }
 
-        @Override
         int priceFor(Ask ask, int n) {
             return ask.isLeastOfAll(key) ? 1 : n;
         }
 
-        @Override
         int priceOfPut(int n) {
             return levels(n);
         }
 
-        @Override
         int keeps(int x) {
             led(40);
             return super.keeps(x) + finds(2);
@@ -1428,13 +1405,12 @@ public final class StonesAsked {
             names = new int[Math.max(room, 0)];
         }
 
-        @Override
         int kind() {
             return 4;
         }
 
         private int bucketOf(int thing) {
-            return keyOf(thing) % BUCKETS;
+            return keys[thing] % BUCKETS;
         }
 
         /** Where the first name of a bucket stands, or would stand. */
@@ -1446,7 +1422,6 @@ public final class StonesAsked {
             return place;
         }
 
-        @Override
         void putName(int thing) {
             counted++;
             if (size >= names.length) {
@@ -1458,7 +1433,6 @@ public final class StonesAsked {
             size++;
         }
 
-        @Override
         void takeName(int thing) {
             int place = startOf(bucketOf(thing));
             while (place < size && names[place] != thing) {
@@ -1473,17 +1447,14 @@ public final class StonesAsked {
             System.arraycopy(names, place + 1, names, place, size - place);
         }
 
-        @Override
         int howMany() {
             return size;
         }
 
-        @Override
         int nameIn(int place) {
             return isWithin(place, 0, size - 1) ? names[place] : BAD;
         }
 
-        @Override
         int run(Ask ask) {
             boolean one = ask.hasEqual(key);
             int bucket = ask.firstEqual(key) % BUCKETS;
@@ -1496,17 +1467,14 @@ public final class StonesAsked {
             return ask.result();
         }
 
-        @Override
         int priceFor(Ask ask, int n) {
             return ask.hasEqual(key) ? n / BUCKETS + 1 : n;
         }
 
-        @Override
         int priceOfPut(int n) {
             return 1;
         }
 
-        @Override
         int finds(int x) {
             led(50);
             return super.finds(x) * 3;
@@ -1520,37 +1488,31 @@ public final class StonesAsked {
             super(things, number, key, 0);
         }
 
-        @Override
         int kind() {
             return 6;
         }
 
         private static int bitsOf(int value) {
-            return 1 << value * 7 % 32 | 1 << value * 11 % 32;
+            return (1 << (value * 7 % 32)) | (1 << (value * 11 % 32));
         }
 
-        @Override
         void putName(int thing) {
             counted += 2;
-            bits |= bitsOf(keyOf(thing));
+            bits |= bitsOf(keys[thing]);
         }
 
-        @Override
         void takeName(int thing) {
             counted++;
         }
 
-        @Override
         int howMany() {
             return Integer.bitCount(bits);
         }
 
-        @Override
         int nameIn(int place) {
             return BAD;
         }
 
-        @Override
         int run(Ask ask) {
             if (!ask.isCountOfOneValue(key)) {
                 return NOT;
@@ -1560,23 +1522,19 @@ public final class StonesAsked {
             return (bits & sought) == sought ? MAYBE : 0;
         }
 
-        @Override
         int priceFor(Ask ask, int n) {
             return ask.isCountOfOneValue(key) ? 2 : NOT;
         }
 
-        @Override
         int priceOfPut(int n) {
             return 2;
         }
 
-        @Override
         int finds(int x) {
             led(70);
             return -super.finds(x + 1);
         }
 
-        @Override
         int keeps(int x) {
             led(71);
             return super.keeps(x) * 2;
@@ -1596,13 +1554,12 @@ public final class StonesAsked {
             super(things, number, key);
         }
 
-        @Override
         int kind() {
             return 5;
         }
 
         private int sideFor(int thing, int knot) {
-            return comesAhead(thing, keyOf(knot), knot) ? lesser[knot] : greater[knot];
+            return comesAhead(thing, keys[knot], knot) ? lesser[knot] : greater[knot];
         }
 
         /** What stands below a knot (or as the root), where old stood, is fresh now. */
@@ -1616,7 +1573,6 @@ public final class StonesAsked {
             }
         }
 
-        @Override
         void putName(int thing) {
             int above = NONE;
             int at = root;
@@ -1630,14 +1586,13 @@ public final class StonesAsked {
             size++;
             if (above == NONE) {
                 root = thing;
-            } else if (comesAhead(thing, keyOf(above), above)) {
+            } else if (comesAhead(thing, keys[above], above)) {
                 lesser[above] = thing;
             } else {
                 greater[above] = thing;
             }
         }
 
-        @Override
         void takeName(int thing) {
             int above = NONE;
             int at = root;
@@ -1675,17 +1630,15 @@ public final class StonesAsked {
             return heir;
         }
 
-        @Override
         int howMany() {
             return size;
         }
 
-        @Override
         int nameIn(int place) {
             int left = place;
             int at = root;
             int depth = 0;
-            for (int step = 0; step < 2 * size; step++) {
+            for (int step = 0; step < 2 * size && (at != NONE || depth > 0); step++) {
                 if (at != NONE) {
                     waiting[depth] = at;
                     depth++;
@@ -1702,7 +1655,6 @@ public final class StonesAsked {
             return BAD;
         }
 
-        @Override
         int run(Ask ask) {
             int low = ask.lowEnd(key);
             int high = ask.highEnd(key);
@@ -1710,7 +1662,7 @@ public final class StonesAsked {
             int at = root;
             for (int step = 0; step < size && at != NONE; step++) {
                 counted++;
-                int value = keyOf(at);
+                int value = keys[at];
                 if (value >= low && value <= high) {
                     ask.see(things, at);
                 }
@@ -1727,17 +1679,14 @@ public final class StonesAsked {
             return ask.result();
         }
 
-        @Override
         int priceFor(Ask ask, int n) {
             return orderedPrice(ask, key, n);
         }
 
-        @Override
         int priceOfPut(int n) {
             return 2 * levels(n);
         }
 
-        @Override
         int tells(int x) {
             led(60);
             return super.tells(x) ^ 5;
