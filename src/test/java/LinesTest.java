@@ -230,6 +230,7 @@ public final class LinesTest {
         }
         Check.due("full", x.walk(0), -3);
         Check.due("bad stands first", x.walk(2), -1);
+        Check.due("no walk 4", x.next(4), -1);
         Check.due("walks", x.count(5), 4);
         Check.due("each for itself", x.next(2), 3);
         Check.due("each for itself", x.next(1), 3);

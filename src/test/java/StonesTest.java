@@ -20,6 +20,7 @@ public final class StonesTest {
         throughBits();
         refused();
         firstUnlike();
+        allRoomIsUsed();
         Check.end();
     }
 
@@ -265,6 +266,8 @@ public final class StonesTest {
         through(y, "0>00:m0", 0, 0, 1, 4);
         through(y, ":x0", 0, 0, 2, 4);
         through(y, ":n", 0, 0, 4, 4);
+        StonesAsked one = withStone(3, 5);
+        through(one, ":m0", 0, 0, 0, 1);
         StonesAsked none = withStone(3);
         through(none, ":m0", 0, 0, -1, 0);
         through(none, ":n", 0, 0, 0, 0);
@@ -391,6 +394,38 @@ public final class StonesTest {
         x.firstUnlike(ask, 0, 0);
         Check.due("looks stay", x.looks(), 3);
         Check.due("puts are counted for themselves", x.ofStone(0, 4), 1);
+    }
+
+    private static void allRoomIsUsed() {
+        StonesAsked x = new StonesAsked();
+        for (int i = 0; i < 10; i++) {
+            x.stone(i % 8, 0);
+            Check.ask(x, i == 0 ? ":s0" : ":n");
+        }
+        for (int i = 0; i < 80; i++) {
+            x.put(i * 37 % 80, 0, 0, 0);
+        }
+        for (int kind : ALL_KINDS) {
+            boolean names = kind != 0 && kind != 6;
+            Check.due("all names", x.ofStone(kind, 2), names ? 80 : kind == 0 ? 0 : 32);
+            Check.due("all seen by kind " + kind, x.through(kind, 0, 0, 0), names ? 79 * 80 / 2 : -2);
+            Check.due("the last name of kind " + kind, x.nameAt(kind, 79) >= 0 ? 1 : 0, names ? 1 : 0);
+            Check.due("no name behind it", x.nameAt(kind, 80), -1);
+        }
+        Check.due("no stone 10", x.ofStone(10, 0), -1);
+        Check.due("no stone 10", x.through(10, 0, 0, 0), -2000000000);
+        Check.due("no ask 10", x.answer(10, 0, 0), -2000000000);
+        Check.due("no ask 10", x.often(10, 0), -1);
+        Check.due("no thing 80", x.of(80, 0), -1);
+        Check.due("no thing 80", x.take(80), -1);
+        Check.due("no plan", x.plan(1024, 1, 1), -1);
+        Check.due("all stones", x.plan(1023, 1, 1), 9 + 1 + 0 + 1 + 1 + 1 + 1 + 2 + 2 + 1 + 0 + 1);
+        for (int i = 79; i >= 0; i--) {
+            x.take(i);
+        }
+        for (int kind : ALL_KINDS) {
+            Check.due("none is left", x.ofStone(kind, 2), kind == 6 ? 32 : 0);
+        }
     }
 
     private static void firstUnlike() {
