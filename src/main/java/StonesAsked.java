@@ -1077,6 +1077,7 @@ public final class StonesAsked {
             bodyCount++;
         }
 
+        /** The body of FINDS and, below, that of TELLS: no kind but this one is given them directly. */
         int finds(int x) {
             led(1);
             return x + number;
