@@ -1706,7 +1706,7 @@ public final class StonesAsked {
         private final int[] held = new int[TOP_WIDTH];
         private final int[] keys = new int[MOST_KEYS];
         private final int[] gaps = new int[MOST_KEYS + 1];
-        /** At [i][j] the least looks over the keys from i on, j not among them. */
+        /** At [i][j] the least looks over the keys from i on, j not among them; at [i][i] always 0. */
         private final int[][] least = new int[MOST_KEYS + 1][MOST_KEYS + 1];
 
         int addDay(int first, int second) {
@@ -1831,9 +1831,6 @@ public final class StonesAsked {
 
         int fewestLooks(int behind) {
             gaps[keyCount] = behind;
-            for (int i = 0; i <= keyCount; i++) {
-                least[i][i] = 0;
-            }
             for (int length = 1; length <= keyCount; length++) {
                 for (int from = 0; from + length <= keyCount; from++) {
                     int root = bestRoot(from, from + length);

@@ -19,6 +19,7 @@ public final class BoundsTest {
         rows();
         shift();
         thingsAndCount();
+        justAsked();
         Check.end();
     }
 
@@ -209,5 +210,45 @@ public final class BoundsTest {
         // nine bytes have a whole four from 0 to 5
         Bounds.of("things i", World::some, 0, 5, 0, (x, v) -> x.things(2, v, 1));
         Bounds.of("count what", World::some, 0, 6, -1, (x, v) -> x.count(v));
+    }
+
+    /** Calls that just ask change nothing, whatever they answer: "the DAYS stay", "the cells stay". */
+    private static void justAsked() {
+        quiet("of", x -> x.of(2, 4));
+        quiet("answer", x -> x.answer(1, 9, 50));
+        quiet("firstUnlike", x -> x.firstUnlike(1, 9, 50));
+        for (int kind = 0; kind < 8; kind++) {
+            int stone = kind;
+            quiet("ofStone", x -> x.ofStone(stone, 3));
+            quiet("nameAt", x -> x.nameAt(stone, 4));
+            quiet("price", x -> x.price(stone, 0, 100));
+            quiet("price, NOT or not", x -> x.price(stone, 1, 100));
+            quiet("putPrice", x -> x.putPrice(stone, 100));
+            quiet("taken", x -> x.taken(1, stone));
+        }
+        quiet("looks", StonesAsked::looks);
+        quiet("root", StonesAsked::root);
+        quiet("plan", x -> x.plan(255, 100, 9));
+        quiet("leastPlan", x -> x.leastPlan(100, 9, 4));
+        quiet("goesThrough", x -> x.goesThrough(255, 1, 100));
+        for (int what = 0; what <= 2; what++) {
+            int of = what;
+            quiet("drifted", x -> x.drifted(3, of));
+            quiet("misses", x -> x.misses(3, 2, of));
+        }
+        quiet("trace", x -> x.trace(8));
+        quiet("element", x -> x.element(2, 8));
+        quiet("shift of none", x -> x.shift(2, 9, 5, 60, 0));
+        for (int what = 0; what <= 6; what++) {
+            int of = what;
+            quiet("count", x -> x.count(of));
+        }
+    }
+
+    private static void quiet(String call, Bounds.Call f) {
+        StonesAsked x = World.some();
+        long answer = f.on(x);
+        Check.due(call + " again", f.on(x), answer);
+        Bounds.alike(call, x, World.some());
     }
 }

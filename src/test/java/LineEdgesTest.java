@@ -11,6 +11,8 @@ public final class LineEdgesTest {
         usedAgainTheLatest();
         neverAgain();
         likeOnesLeastLine();
+        nothingHeldAtFirst();
+        usesByLines();
         nineKeys();
         noKeys();
         oneKey();
@@ -136,6 +138,31 @@ public final class LineEdgesTest {
         for (int f = 1; f <= 8; f++) {
             Check.due("each is missed once", x.misses(1, f, 1), 5);
         }
+    }
+
+    /** "while there is room none" goes, and none is there that did not come: LINE 0, or one of another asking. */
+    private static void nothingHeldAtFirst() {
+        for (int what = 0; what <= 1; what++) {
+            for (int f = 1; f <= 8; f++) {
+                StonesAsked x = cells(1, 0, 2);
+                Check.due("line 0 did not come", x.misses(1, f, what), 3);
+                Check.due("line 0 did not come", x.misses(2, f, what), 2);
+                Check.due("asked again", x.misses(1, f, what), 3);
+                Check.due("and by the other one", x.misses(1, f, 1 - what), 3);
+            }
+        }
+    }
+
+    /** What comes is looked for by its LINE, not by its cell. */
+    private static void usesByLines() {
+        // by 4: lines 1, 2, 3, 1, 2, 3
+        StonesAsked x = cells(4, 8, 12, 7, 11, 15);
+        Check.due("2 goes, 3 goes", x.misses(4, 2, 1), 4);
+        Check.due("by use", x.misses(4, 2, 0), 6);
+        // by 8: lines 0, 1, 2, 1, 0, 2: 2 needs 0 to go
+        StonesAsked y = cells(7, 15, 16, 8, 0, 23);
+        Check.due("lines of 8", y.misses(8, 2, 1), 4);
+        Check.due("lines of 8", y.misses(8, 2, 0), 5);
     }
 
     /** "keys told (1 .. 9)"; "BAD, FULL: 9." */

@@ -239,6 +239,9 @@ public final class StoneEdgesTest {
         StonesAsked four = with(3, 1, 2, 3, 4);
         four.take(0);
         now(four, "the top of four: both below, then none", 1 + 2, "1 3 2");
+        StonesAsked five = with(3, 1, 2, 9, 3, 8);
+        five.take(0);
+        now(five, "the top of five: both below, then one", 1 + 2 + 1, "1 3 2 4");
         StonesAsked like = with(3, 4, 4, 4, 4);
         like.take(0);
         now(like, "of like ones the least number: 3 goes below 1", 1 + 2, "1 3 2");

@@ -211,6 +211,9 @@ public final class ThroughEdgesTest {
         through(x, "0=a&0=b:s0", 99, 0, 0, 2 + 2);
         StonesAsked many = with(7, 10, 20, 30);
         through(many, "0=a&0=b:n", 30, 10, 0, 2 + 2);
+        through(many, "0=a:s0", 30, 0, 30, 2 + 2);
+        through(many, "0=a:s0", 20, 0, 20, 2 + 2);
+        through(many, "0>a:s0", 10, 0, 50, 2 + 2);
         StonesAsked none = with(7);
         through(none, "0=a:s0", 0, 0, 0, 0);
     }
