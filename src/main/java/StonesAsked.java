@@ -1338,7 +1338,7 @@ public final class StonesAsked {
 
         private void sink(int place) {
             int at = place;
-            while (2 * at + 1 < size) {
+            for (int step = 0; step < size && 2 * at + 1 < size; step++) {
                 int below = lesserBelow(at);
                 counted++;
                 if (!isLess(below, at)) {
