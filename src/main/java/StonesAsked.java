@@ -22,6 +22,8 @@ public final class StonesAsked {
     private final int[] tape = new int[TAPE_ROOM];
     private int tapeSize;
     private final Ask[] asks = new Ask[MOST_ASKS];
+    /** What the tape is read into: it is used again until it has become an ask. */
+    private Ask blank = new Ask();
     private int askCount;
     private final Stone[] stones = new Stone[MOST_STONES];
     private int stoneCount;
@@ -127,13 +129,13 @@ public final class StonesAsked {
         if (askCount >= MOST_ASKS) {
             return FULL;
         }
-        Ask fresh = new Ask();
-        int fault = fresh.readFrom(tape, tapeSize);
+        int fault = blank.readFrom(tape, tapeSize);
         tapeSize = 0;
         if (fault != NONE) {
             return -100 - fault;
         }
-        asks[askCount] = fresh;
+        asks[askCount] = blank;
+        blank = new Ask();
         askCount++;
         return askCount - 1;
     }
@@ -777,8 +779,9 @@ public final class StonesAsked {
         private int best;
         private int bestValue;
 
-        /** The FAULT, or NONE if the tape is an ask. */
+        /** The FAULT, or NONE if the tape is an ask. Conditions of an earlier tape, with a FAULT, are forgotten. */
         int readFrom(int[] tape, int size) {
+            conditions = 0;
             int state = AT_START;
             for (int i = 0; i < size; i++) {
                 state = stateAfter(state, tape[i]);
@@ -850,8 +853,11 @@ public final class StonesAsked {
         }
 
         private int readOutField(int sign) {
+            if (!isWithin(sign, '0', '3')) {
+                return NONE;
+            }
             outField = sign - '0';
-            return isField(outField) ? AT_END : NONE;
+            return AT_END;
         }
 
         void begin(int a, int b) {

@@ -40,11 +40,14 @@ public final class AsksTest {
     }
 
     private static void fault(String text, int place) {
-        StonesAsked x = new StonesAsked();
+        StonesAsked x = Check.withKeys(9, 9, 9);
         Check.due(text, Check.ask(x, text), -100 - place);
         Check.due("the tape is empty behind " + text, x.count(4), 0);
         Check.due("no ask from " + text, x.count(2), 0);
         Check.due("what comes next is free of " + text, Check.ask(x, ":n"), 0);
+        Check.due("free of its conditions, too", x.answer(0, 5, 5), 3);
+        Check.due("and of its O", Check.ask(x, "0=a:s0"), 1);
+        Check.due("just its own condition", x.answer(1, 9, 5), 27);
     }
 
     private static void faults() {
