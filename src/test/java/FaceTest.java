@@ -85,6 +85,10 @@ public final class FaceTest {
             Check.holds(inside + " is static, and not seen from outside",
                     Modifier.isStatic(is) && !Modifier.isPublic(is) && !Modifier.isProtected(is));
             Check.holds(inside + " has some twenty fields", inside.getDeclaredFields().length <= 30);
+            for (Field f : inside.getDeclaredFields()) {
+                boolean isConstant = Modifier.isFinal(f.getModifiers()) && f.getType().isPrimitive();
+                Check.holds(f + " is a constant, if static", !Modifier.isStatic(f.getModifiers()) || isConstant);
+            }
             for (Method m : inside.getDeclaredMethods()) {
                 Check.holds(m + " takes seven at most", m.getParameterCount() <= 7);
             }

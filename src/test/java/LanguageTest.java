@@ -1,6 +1,8 @@
 import java.io.IOException;
 import java.nio.file.Files;
 import java.nio.file.Path;
+import java.util.HashSet;
+import java.util.Set;
 import java.util.regex.Matcher;
 import java.util.regex.Pattern;
 
@@ -18,6 +20,7 @@ public final class LanguageTest {
         words(code);
         signs(source);
         imports(code);
+        library(code);
         methodLengths(source);
         Check.end();
     }
@@ -47,6 +50,29 @@ public final class LanguageTest {
         while (found.find()) {
             Check.holds(found.group(), found.group().equals("import java.util.Arrays;"));
         }
+    }
+
+    /** Rule 4: of the library just what it lists; made is nothing but own classes and rows (rules 3 and 12). */
+    private static void library(String code) {
+        Set<String> listed = Set.of("Math.max", "Math.min", "Integer.bitCount", "Arrays.fill", "System.arraycopy");
+        Set<String> own = new HashSet<>();
+        Matcher classes = Pattern.compile("\\bclass (\\w+)").matcher(code);
+        while (classes.find()) {
+            own.add(classes.group(1));
+        }
+        Matcher named = Pattern.compile("\\b([A-Z]\\w*[a-z]\\w*)\\.(\\w+)").matcher(code);
+        while (named.find()) {
+            Check.holds("listed: " + named.group(), listed.contains(named.group()));
+        }
+        Matcher made = Pattern.compile("\\bnew (\\w+)([\\[(])").matcher(code);
+        int found = 0;
+        while (made.find()) {
+            found++;
+            boolean isNumbers = made.group(1).equals("int") || made.group(1).equals("long");
+            Check.holds("made: " + made.group(), own.contains(made.group(1)) || isNumbers && made.group(2).equals("["));
+        }
+        Check.holds("some are made", found > 20);
+        Check.holds("some twelve classes", own.size() <= 12);
     }
 
     /** A method ends where the brace of its own depth is closed. */
